@@ -1321,7 +1321,7 @@ public final class SteeredClaims {
         }
 
         /** Attempts to prove the claim with which the level starts; tells the kind of failure, or PROVED. */
-        int attempt(int level) {
+        private int attempt(int level) {
             if (level < 0 || level >= LEVELS) {
                 return STUCK;
             }

@@ -231,9 +231,28 @@ public final class ModelTest {
             String left = term(leaves, "S" + letters(1), letters(2), 1 + random.nextInt(12));
             String right = term(leaves, "S" + letters(1), letters(2), 1 + random.nextInt(12));
             text = left + "=" + (random.nextInt(4) == 0 ? left : random.nextInt(3) == 0 ? swapped(left) : right);
+        } else if (random.nextInt(3) == 0) {
+            String right = term("xxyzZ", "S" + letters(1), letters(2), 1 + random.nextInt(10));
+            text = wrapped(right) + "=" + right;
         }
         type(spoiled(text));
         check("claim()", real.claim(), model.claim());
+    }
+
+    /** The term with some more symbols around some of its subterms, so that it embeds what it was. */
+    private String wrapped(String term) {
+        StringBuilder b = new StringBuilder();
+        for (char c : term.toCharArray()) {
+            String binary = letters(2);
+            switch (random.nextInt(6)) {
+                case 0 -> b.append('S');
+                case 1 -> b.append("SS");
+                case 2 -> b.append(binary.isEmpty() ? "S" : binary.charAt(random.nextInt(binary.length())) + "" + "xyzZ".charAt(random.nextInt(4)));
+                default -> { }
+            }
+            b.append(c);
+        }
+        return b.toString();
     }
 
     private static String swapped(String text) {

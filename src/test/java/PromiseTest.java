@@ -19,12 +19,15 @@ public final class PromiseTest {
         side();
         anew();
         value();
+        deepValues();
         holds();
         counter();
         normal();
+        deepNormalForms();
         scheme();
         difference();
         steered();
+        steeredDirections();
         steeredLimit();
         common();
         general();
@@ -37,6 +40,7 @@ public final class PromiseTest {
         lemma();
         lemmaLimits();
         tested();
+        testedVariables();
         back();
         many();
         if (wrong != 0) {
@@ -373,6 +377,32 @@ public final class PromiseTest {
         due("100 in an argument that is not needed", s.value(4, 1, 0, 0), NONE);
     }
 
+    /** Six functions, each of which ends with the one before it: so calls nest as deep as the work allows. */
+    private static SteeredClaims chain(String first, String start, String step) {
+        SteeredClaims s = with(first);
+        for (char letter = 'b'; letter <= 'f'; letter++) {
+            String text = first.substring(0, 2) + (char) (letter - 1) + start + ";" + step.replace('@', letter);
+            due(text, define(s, text), letter - 'a');
+        }
+        return s;
+    }
+
+    private static void deepValues() {
+        promise = 11;
+        // f(m) is 40 + m, with the work 46 + m, and all calls are within one another.
+        SteeredClaims s = chain("11Z;Sax", times("S", 8) + "Z", "S@x");
+        due("value(5, 9, 0, 0)", s.value(5, 9, 0, 0), 49);
+        due("value(5, 9, 0, 1)", s.value(5, 9, 0, 1), 55);
+        claimed(s, "f" + times("S", 14) + "x=" + times("S", 10) + "e" + times("S", 8) + "x");
+        due("60 calls", s.holds(0, 0, 0), 0);
+        due("61 calls", s.holds(1, 0, 0), NONE);
+        // Bodies with 10 symbols each; f(m, n) has the work 41 + m.
+        s = chain("21Z;ax" + times("S", 7) + "Z", times("S", 7) + "ZZ", "@x" + times("S", 7) + "Z");
+        claimed(s, "f" + times("S", 17) + "xx=Z");
+        due("60 calls", s.holds(2, 0, 0), 1);
+        due("61 calls", s.holds(3, 0, 0), NONE);
+    }
+
     private static void holds() {
         promise = 11;
         SteeredClaims s = with(ADD, "11Z;Sbx", "11b" + times("S", 8) + "Z;bcx");
@@ -400,13 +430,14 @@ public final class PromiseTest {
 
     private static void counter() {
         promise = 12;
-        SteeredClaims s = with(ADD, "12Z;Z;Sbx", "11Z;Scx", "11c" + times("S", 8) + "Z;cdx");
+        SteeredClaims s = with(ADD, "12Z;Z;Sbx", "11Z;Scx", "11c" + times("S", 8) + "Z;cdx", "11Z;x");
         due("counter(0)", s.counter(0), STATE);
         due("counter(3)", s.counter(3), OUTSIDE);
         Object[][] rows = {
             {"axy=x", 0, 1, 0}, {"axy=y", 1, 0, 0}, {"z=Z", 0, 0, 1}, {"y=z", 0, 0, 1}, {"x=SSz", 0, 0, 0},
             {"axy=ayx", NONE, NONE, NONE}, {"bbx=Z", NONE, NONE, NONE}, {"bx=Z", 2, 0, 0}, {"Z=SZ", 0, 0, 0},
-            {"SSx=axx", 0, 0, 0}, {"by=bz", 0, 0, 2}, {"x=x", NONE, NONE, NONE},
+            {"SSx=axx", 0, 0, 0}, {"by=bz", 0, 0, 2}, {"x=x", NONE, NONE, NONE}, {"eex=Z", NONE, NONE, NONE}, {"eey=Z", NONE, NONE, NONE}, {"eez=Z", NONE, NONE, NONE},
+            {"ex=Z", 2, 0, 0}, {"ey=Z", 0, 2, 0}, {"ez=Z", 0, 0, 2},
         };
         for (int r = 0; r < rows.length; r++) {
             claimed(s, (String) rows[r][0]);
@@ -463,6 +494,28 @@ public final class PromiseTest {
         claimed(s, "fZSSSc" + times("S", 9) + "x=fZSSc" + times("S", 9) + "x");
         due("41 symbols on the way", s.normal(0, NONE), STATE);
         normalIs(s, 1, "Z");
+    }
+
+    private static void deepNormalForms() {
+        promise = 13;
+        SteeredClaims s = chain("11Z;ax", times("S", 8) + "Z", "@x");
+        claimed(s, "fSSSSZ=fSSSSSZ");
+        normalIs(s, 0, "Z");
+        due("51 bodies", s.normal(1, NONE), STATE);
+        s = chain("21Z;ax" + times("S", 7) + "Z", times("S", 7) + "ZZ", "@x" + times("S", 7) + "Z");
+        claimed(s, "SSSSSSSf" + times("S", 9) + "ZZ=f" + times("S", 10) + "ZZ");
+        normalIs(s, 0, "SSSSSSSZ");
+        due("51 bodies", s.normal(1, NONE), STATE);
+        // 40 symbols and 41, with each kind of leaf.
+        s = with("11Z;SSSSax");
+        for (String v : new String[] {"x", "y", "z"}) {
+            claimed(s, "SSSa" + times("S", 9) + v + "=SSa" + times("S", 9) + v);
+            due("41 symbols", s.normal(0, NONE), STATE);
+            normalIs(s, 1, times("S", 38) + "a" + v);
+        }
+        claimed(s, "SSSSa" + times("S", 9) + "Z=SSSa" + times("S", 9) + "Z");
+        due("41 symbols", s.normal(0, NONE), STATE);
+        normalIs(s, 1, times("S", 39) + "Z");
     }
 
     private static void schemeIs(SteeredClaims s, String text, int variable, int depth, int calls) {
@@ -547,6 +600,29 @@ public final class PromiseTest {
         steeredIs(s, "SSx=x", "SSx");
         due("steered(-1)", s.steered(-1), OUTSIDE);
         due("steered(40)", s.steered(40), OUTSIDE);
+    }
+
+    private static void steeredDirections() {
+        promise = 16;
+        // Going from x to axZ would make aaxSSZZ, with the difference 1 instead of 3.
+        SteeredClaims s = with(ADD, "21Z;aybxy");
+        proved(s, "x=axZ");
+        steeredIs(s, "axSSZ=axZ", "axSSZ");
+        due("back()", s.back(), 0);
+        proved(s, "axZ=x");
+        steeredIs(s, "axSSZ=axZ", "axSSZ");
+        due("back()", s.back(), 0);
+        // Going from Z to bZx, or bZy, would make abZxSSbZx, with the difference 0 instead of 3.
+        for (String v : new String[] {"x", "y", "z"}) {
+            for (String text : new String[] {"bZ" + v + "=Z", "Z=bZ" + v}) {
+                proved(s, text);
+                steeredIs(s, "aZSSbZ" + v + "=bZ" + v, "aZSSbZ" + v);
+                due("back()", s.back(), 0);
+            }
+        }
+        // Z alone may be gone from, if the other side has no variables.
+        proved(s, "bZSZ=Z");
+        steeredIs(s, "aZSSbZSZ=bZSZ", "abZSZSSbZSZ");
     }
 
     /** The lemma makes the terms longer: a T a T c x T has 40 symbols if T has 12, and 43 if T has 13. */
@@ -820,6 +896,22 @@ public final class PromiseTest {
         due("tested(0, -1)", s.tested(0, -1), OUTSIDE);
         due("tested(3, 3)", s.tested(3, 3), UNKNOWN);
         due("tested(-1, 0)", s.tested(-1, 0), UNKNOWN);
+    }
+
+    /** The same function: c(m) is defined up to 5, and b(c(m)) up to 4. */
+    private static void testedVariables() {
+        promise = 23;
+        SteeredClaims s = with(ADD, "11Z;Sbx", "11b" + times("S", 8) + "Z;bcx");
+        proved(s, "cSSSx=bcSSx");
+        proved(s, "cSSSy=bcSSy");
+        proved(s, "cSSSz=bcSSz");
+        proved(s, "caSxayz=bcaxayz");
+        for (int k = 0; k < 4; k++) {
+            // With x, y and z the sum must not be greater than 3.
+            due("tested(" + k + ", 0)", s.tested(k, 0), k < 3 ? 48 : 20);
+            due("tested(" + k + ", 1)", s.tested(k, 1), 0);
+            due("tested(" + k + ", 2)", s.tested(k, 2), k < 3 ? 16 : 44);
+        }
     }
 
     private static void back() {
