@@ -1132,7 +1132,7 @@ public final class SteeredClaims {
             this.functions = functions;
         }
 
-        /** Tells whether the pattern matches the subject's subterm at a position; the fixed variable (or NONE) matches only itself. */
+        /** Tells whether a pattern matches the subterm at a position; the fixed variable (or NONE) matches only itself. */
         boolean matches(Term pattern, Term subject, int position, int fixed) {
             start[0] = NONE;
             start[1] = NONE;
