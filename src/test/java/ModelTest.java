@@ -5,7 +5,8 @@ import java.util.TreeMap;
 
 /** Random runs of calls, the same ones always, on the class and on the model; every answer must be the same. */
 public final class ModelTest {
-    private static final int RUNS = 1500, CALLS = 512;
+    // A turn of a run makes fewer than 125 calls, and nothing is promised after the 512th call.
+    private static final int RUNS = 1500, CALLS = 512, TURN = 125;
 
     // Texts of useful functions, each with its arity and depth; self and earlier letters are put in as they are due.
     private static final String[] FUNCTIONS = {
@@ -39,6 +40,9 @@ public final class ModelTest {
         for (int run = first; run < first + runs && wrong < 5; run++) {
             ModelTest test = new ModelTest(run);
             test.run();
+            if (test.history.size() > CALLS) {
+                throw new IllegalStateException("run " + run + " is too long");
+            }
             if (!test.same) {
                 wrong++;
                 System.out.println("run " + run + ":");
@@ -70,7 +74,7 @@ public final class ModelTest {
         if (provesMuch) {
             defineTheory();
         }
-        while (history.size() < CALLS - 60 && same) {
+        while (history.size() < CALLS - TURN && same) {
             int what = random.nextInt(20);
             if (provesMuch && what < 9) {
                 claimOne();

@@ -1,13 +1,5 @@
 /** For each promise ordinary inputs, edges and wrong inputs; the answers were worked out by hand from the document. */
-public final class PromiseTest {
-    private static final int UNKNOWN = -1, OUTSIDE = -2, STATE = -3, FULL = -4, NONE = -9;
-    private static final int LEAST = Integer.MIN_VALUE, GREATEST = Integer.MAX_VALUE;
-
-    private static final String ADD = "21y;Saxy", DOUBLE = "11Z;SSbx";
-
-    private static int wrong = 0;
-    private static int promise = 0;
-
+public final class PromiseTest extends Checks {
     public static void main(String[] args) {
         newObject();
         type();
@@ -43,90 +35,12 @@ public final class PromiseTest {
         testedVariables();
         back();
         many();
-        if (wrong != 0) {
-            System.out.println(wrong + " answers are not as due");
-            System.exit(1);
-        }
-    }
-
-    private static void due(String call, int got, int want) {
-        if (got != want) {
-            wrong++;
-            System.out.println("promise " + promise + ": " + call + " answered " + got + ", due is " + want);
-        }
-    }
-
-    private static void write(SteeredClaims s, String text) {
-        s.wipe();
-        for (int i = 0; i < text.length(); i++) {
-            due("type in " + text, s.type(text.charAt(i)), i + 1);
-        }
-    }
-
-    /** Each text begins with the arity and the depth. */
-    private static SteeredClaims with(String... functions) {
-        SteeredClaims s = new SteeredClaims();
-        for (int i = 0; i < functions.length; i++) {
-            due(functions[i], define(s, functions[i]), i);
-        }
-        return s;
-    }
-
-    private static int define(SteeredClaims s, String text) {
-        write(s, text.substring(2));
-        return s.function(text.charAt(0) - '0', text.charAt(1) - '0');
-    }
-
-    private static int state(SteeredClaims s, String text) {
-        write(s, text);
-        return s.claim();
-    }
-
-    private static void claimed(SteeredClaims s, String text) {
-        due(text, state(s, text), text.length() - 1);
-    }
-
-    private static void proved(SteeredClaims s, String text) {
-        claimed(s, text);
-        due("prove() of " + text, s.prove(), 0);
-    }
-
-    private static String times(String text, int n) {
-        return text.repeat(n);
-    }
-
-    /** The notes of the script, as "kind:number kind:number ..". */
-    private static void scriptIs(SteeredClaims s, String notes) {
-        StringBuilder b = new StringBuilder();
-        for (int k = 0; k < s.many(3); k++) {
-            b.append(k == 0 ? "" : " ").append(s.script(k, 0)).append(':').append(s.script(k, 1));
-        }
-        if (!b.toString().equals(notes)) {
-            wrong++;
-            System.out.println("promise " + promise + ": the script is " + b + ", due is " + notes);
-        }
-    }
-
-    private static void causesAre(SteeredClaims s, int... kinds) {
-        for (int k = 0; k <= 9; k++) {
-            due("why(" + k + ")", s.why(k), k < kinds.length ? kinds[k] : NONE);
-        }
-    }
-
-    private static void lemmaIs(SteeredClaims s, int k, String text) {
-        String[] sides = text.split("=");
-        for (int which = 0; which < 2; which++) {
-            due("size of " + text, s.lemma(k, which, NONE), sides[which].length());
-            for (int i = 0; i < sides[which].length(); i++) {
-                due("lemma " + text, s.lemma(k, which, i), sides[which].charAt(i));
-            }
-            due("behind " + text, s.lemma(k, which, sides[which].length()), sides[which].length() < 40 ? NONE : OUTSIDE);
-        }
+        end();
     }
 
     private static void newObject() {
         promise = 1;
-        SteeredClaims s = new SteeredClaims();
+        Subject s = new Subject();
         for (int what = 0; what < 4; what++) {
             due("many(" + what + ")", s.many(what), 0);
         }
@@ -147,7 +61,7 @@ public final class PromiseTest {
 
     private static void type() {
         promise = 2;
-        SteeredClaims s = new SteeredClaims();
+        Subject s = new Subject();
         due("type(0)", s.type(0), 1);
         due("type(127)", s.type(127), 2);
         for (int code : new int[] {-1, 128, LEAST, GREATEST}) {
@@ -164,7 +78,7 @@ public final class PromiseTest {
 
     private static void wipe() {
         promise = 3;
-        SteeredClaims s = new SteeredClaims();
+        Subject s = new Subject();
         write(s, "x=x");
         due("wipe()", s.wipe(), 3);
         due("wipe()", s.wipe(), 0);
@@ -174,7 +88,7 @@ public final class PromiseTest {
 
     private static void function() {
         promise = 4;
-        SteeredClaims s = new SteeredClaims();
+        Subject s = new Subject();
         write(s, "y;Saxy");
         int[][] outside = {{0, 1}, {3, 1}, {2, 0}, {2, 3}, {LEAST, 1}, {1, GREATEST}};
         for (int[] pair : outside) {
@@ -208,7 +122,7 @@ public final class PromiseTest {
             {"12Z;" + times("S", 11), 11}, {"11\0", 0}, {"11Z;\u007f", 2},
         };
         for (Object[] row : faults) {
-            SteeredClaims s = new SteeredClaims();
+            Subject s = new Subject();
             String text = (String) row[0];
             due(text, define(s, text), -100 - (Integer) row[1]);
             due("many(0)", s.many(0), 0);
@@ -220,10 +134,10 @@ public final class PromiseTest {
             "12" + times("S", 9) + "Z;" + times("S", 9) + "Z;" + times("S", 9) + "x",
         };
         for (String text : fine) {
-            due(text, define(new SteeredClaims(), text), 0);
+            due(text, define(new Subject(), text), 0);
         }
         // Known letters may be used in all bodies, with their own arities; the next letter only in the last one.
-        SteeredClaims s = with(ADD, DOUBLE);
+        Subject s = with(ADD, DOUBLE);
         due("aZ;x", define(s, "11aZ;x"), -100 - 2);
         due("c;x", define(s, "11c;x"), -100);
         due("Z;d", define(s, "11Z;d"), -100 - 2);
@@ -233,7 +147,7 @@ public final class PromiseTest {
 
     private static void ofFunctionAndBody() {
         promise = 5;
-        SteeredClaims s = with("22y;Sy;SSaxy", "11Z;SSbx");
+        Subject s = with("22y;Sy;SSaxy", "11Z;SSbx");
         int[][] properties = {{2, 2, 1, 2, 5}, {1, 1, 1, NONE, 4}};
         for (int f = 0; f < 2; f++) {
             for (int what = 0; what < 5; what++) {
@@ -264,7 +178,7 @@ public final class PromiseTest {
 
     private static void claim() {
         promise = 7;
-        SteeredClaims s = with(ADD, DOUBLE);
+        Subject s = with(ADD, DOUBLE);
         due("axSy=Saxy", state(s, "axSy=Saxy"), 8);
         due("many(2)", s.many(2), 9);
         Object[][] faults = {
@@ -285,7 +199,7 @@ public final class PromiseTest {
 
     private static void side() {
         promise = 8;
-        SteeredClaims s = with(ADD);
+        Subject s = with(ADD);
         due("side(0, 0)", s.side(0, 0), STATE);
         due("side(2, 0)", s.side(2, 0), OUTSIDE);
         due("side(0, 20)", s.side(0, 20), OUTSIDE);
@@ -305,7 +219,7 @@ public final class PromiseTest {
 
     private static void anew() {
         promise = 9;
-        SteeredClaims s = with(ADD, DOUBLE);
+        Subject s = with(ADD, DOUBLE);
         proved(s, "axZ=x");
         claimed(s, "Sx=x");
         due("prove()", s.prove(), 1);
@@ -331,7 +245,7 @@ public final class PromiseTest {
     private static void value() {
         promise = 10;
         // b(m) is m; the work for c(m), which is 8, is 10 * (m + 1); d(m + 1) is c(m).
-        SteeredClaims s = with(ADD, "11Z;Sbx", "11b" + times("S", 8) + "Z;bcx", "11Z;cx", "12Z;SZ;SSSex", "22y;Z;fxSy");
+        Subject s = with(ADD, "11Z;Sbx", "11b" + times("S", 8) + "Z;bcx", "11Z;cx", "12Z;SZ;SSSex", "22y;Z;fxSy");
         due("value(0, 3, 4, 0)", s.value(0, 3, 4, 0), 7);
         due("value(0, 3, 4, 1)", s.value(0, 3, 4, 1), 4);
         due("value(0, 9, 9, 0)", s.value(0, 9, 9, 0), 18);
@@ -365,7 +279,7 @@ public final class PromiseTest {
 
     /** a(8) = 73, b(3) = 97, c(2) = 99, c(3) = 100. */
     private static void greatNumbers() {
-        SteeredClaims s = with("11" + times("S", 9) + "Z;" + times("S", 8) + "ax",
+        Subject s = with("11" + times("S", 9) + "Z;" + times("S", 8) + "ax",
                 "11a" + times("S", 8) + "Z;" + times("S", 8) + "bx", "11bSSSZ;Scx", "21Z;Z", "11Z;dZcSSSZ");
         due("value(0, 8, 0, 0)", s.value(0, 8, 0, 0), 73);
         due("value(1, 3, 0, 0)", s.value(1, 3, 0, 0), 97);
@@ -378,8 +292,8 @@ public final class PromiseTest {
     }
 
     /** Six functions, each of which ends with the one before it: so calls nest as deep as the work allows. */
-    private static SteeredClaims chain(String first, String start, String step) {
-        SteeredClaims s = with(first);
+    private static Subject chain(String first, String start, String step) {
+        Subject s = with(first);
         for (char letter = 'b'; letter <= 'f'; letter++) {
             String text = first.substring(0, 2) + (char) (letter - 1) + start + ";" + step.replace('@', letter);
             due(text, define(s, text), letter - 'a');
@@ -390,7 +304,7 @@ public final class PromiseTest {
     private static void deepValues() {
         promise = 11;
         // f(m) is 40 + m, with the work 46 + m, and all calls are within one another.
-        SteeredClaims s = chain("11Z;Sax", times("S", 8) + "Z", "S@x");
+        Subject s = chain("11Z;Sax", times("S", 8) + "Z", "S@x");
         due("value(5, 9, 0, 0)", s.value(5, 9, 0, 0), 49);
         due("value(5, 9, 0, 1)", s.value(5, 9, 0, 1), 55);
         claimed(s, "f" + times("S", 14) + "x=" + times("S", 10) + "e" + times("S", 8) + "x");
@@ -405,7 +319,7 @@ public final class PromiseTest {
 
     private static void holds() {
         promise = 11;
-        SteeredClaims s = with(ADD, "11Z;Sbx", "11b" + times("S", 8) + "Z;bcx");
+        Subject s = with(ADD, "11Z;Sbx", "11b" + times("S", 8) + "Z;bcx");
         due("holds(0, 0, 0)", s.holds(0, 0, 0), STATE);
         due("holds(6, 0, 0)", s.holds(6, 0, 0), OUTSIDE);
         claimed(s, "axy=Sz");
@@ -430,13 +344,14 @@ public final class PromiseTest {
 
     private static void counter() {
         promise = 12;
-        SteeredClaims s = with(ADD, "12Z;Z;Sbx", "11Z;Scx", "11c" + times("S", 8) + "Z;cdx", "11Z;x");
+        Subject s = with(ADD, "12Z;Z;Sbx", "11Z;Scx", "11c" + times("S", 8) + "Z;cdx", "11Z;x");
         due("counter(0)", s.counter(0), STATE);
         due("counter(3)", s.counter(3), OUTSIDE);
         Object[][] rows = {
             {"axy=x", 0, 1, 0}, {"axy=y", 1, 0, 0}, {"z=Z", 0, 0, 1}, {"y=z", 0, 0, 1}, {"x=SSz", 0, 0, 0},
             {"axy=ayx", NONE, NONE, NONE}, {"bbx=Z", NONE, NONE, NONE}, {"bx=Z", 2, 0, 0}, {"Z=SZ", 0, 0, 0},
-            {"SSx=axx", 0, 0, 0}, {"by=bz", 0, 0, 2}, {"x=x", NONE, NONE, NONE}, {"eex=Z", NONE, NONE, NONE}, {"eey=Z", NONE, NONE, NONE}, {"eez=Z", NONE, NONE, NONE},
+            {"SSx=axx", 0, 0, 0}, {"by=bz", 0, 0, 2}, {"x=x", NONE, NONE, NONE},
+            {"eex=Z", NONE, NONE, NONE}, {"eey=Z", NONE, NONE, NONE}, {"eez=Z", NONE, NONE, NONE},
             {"ex=Z", 2, 0, 0}, {"ey=Z", 0, 2, 0}, {"ez=Z", 0, 0, 2},
         };
         for (int r = 0; r < rows.length; r++) {
@@ -454,9 +369,9 @@ public final class PromiseTest {
         due("counter(3)", s.counter(3), OUTSIDE);
     }
 
-    private static void normalIs(SteeredClaims s, int which, String text) {
+    private static void normalIs(Subject s, int which, String text) {
         due("size of " + text, s.normal(which, NONE), text.length());
-        for (int i = 0; i < 40; i++) {
+        for (int i = 0; i <= text.length() && i < 40; i++) {
             due("normal form " + text, s.normal(which, i), i < text.length() ? text.charAt(i) : NONE);
         }
     }
@@ -464,7 +379,7 @@ public final class PromiseTest {
     private static void normal() {
         promise = 13;
         // Addition, the identity, four times, a half, and addition by steps of two.
-        SteeredClaims s = with(ADD, "11Z;Sbx", "11Z;SSSScx", "12Z;Z;Sdx", "22y;Sy;SSexy");
+        Subject s = with(ADD, "11Z;Sbx", "11Z;SSSScx", "12Z;Z;Sdx", "22y;Sy;SSexy");
         due("normal(0, 0)", s.normal(0, 0), STATE);
         due("normal(2, 0)", s.normal(2, 0), OUTSIDE);
         claimed(s, "aSSxy=aaxSyz");
@@ -498,7 +413,7 @@ public final class PromiseTest {
 
     private static void deepNormalForms() {
         promise = 13;
-        SteeredClaims s = chain("11Z;ax", times("S", 8) + "Z", "@x");
+        Subject s = chain("11Z;ax", times("S", 8) + "Z", "@x");
         claimed(s, "fSSSSZ=fSSSSSZ");
         normalIs(s, 0, "Z");
         due("51 bodies", s.normal(1, NONE), STATE);
@@ -518,7 +433,7 @@ public final class PromiseTest {
         normalIs(s, 1, times("S", 39) + "Z");
     }
 
-    private static void schemeIs(SteeredClaims s, String text, int variable, int depth, int calls) {
+    private static void schemeIs(Subject s, String text, int variable, int depth, int calls) {
         claimed(s, text);
         due("scheme(0) of " + text, s.scheme(0), variable);
         due("scheme(1) of " + text, s.scheme(1), depth);
@@ -527,7 +442,7 @@ public final class PromiseTest {
 
     private static void scheme() {
         promise = 14;
-        SteeredClaims s = with(ADD, "12Z;Z;Sbx", "11Z;Scx");
+        Subject s = with(ADD, "12Z;Z;Sbx", "11Z;Scx");
         due("scheme(0)", s.scheme(0), STATE);
         due("scheme(3)", s.scheme(3), OUTSIDE);
         schemeIs(s, "axZ=x", 0, 1, 1);
@@ -547,7 +462,7 @@ public final class PromiseTest {
 
     private static void difference() {
         promise = 15;
-        SteeredClaims s = with(ADD, DOUBLE);
+        Subject s = with(ADD, DOUBLE);
         due("difference()", s.difference(), STATE);
         Object[][] rows = {
             {"axSy=axy", 1}, {"Saxy=axy", 0}, {"aSxSy=axy", 2}, {"aSSxy=axy", 3}, {"x=x", 0}, {"x=y", NONE},
@@ -562,10 +477,10 @@ public final class PromiseTest {
         }
     }
 
-    private static void steeredIs(SteeredClaims s, String claim, String result) {
+    private static void steeredIs(Subject s, String claim, String result) {
         claimed(s, claim);
         due("size of " + result, s.steered(NONE), result.length());
-        for (int i = 0; i < 40; i++) {
+        for (int i = 0; i <= result.length() && i < 40; i++) {
             due("steered, " + result, s.steered(i), i < result.length() ? result.charAt(i) : NONE);
         }
         due("the claim stays", s.side(0, 0), claim.charAt(0));
@@ -574,7 +489,7 @@ public final class PromiseTest {
 
     private static void steered() {
         promise = 16;
-        SteeredClaims s = with(ADD, DOUBLE);
+        Subject s = with(ADD, DOUBLE);
         due("steered(0)", s.steered(0), STATE);
         due("steered(40)", s.steered(40), OUTSIDE);
         claimed(s, "axy=ayx");
@@ -605,7 +520,7 @@ public final class PromiseTest {
     private static void steeredDirections() {
         promise = 16;
         // Going from x to axZ would make aaxSSZZ, with the difference 1 instead of 3.
-        SteeredClaims s = with(ADD, "21Z;aybxy");
+        Subject s = with(ADD, "21Z;aybxy");
         proved(s, "x=axZ");
         steeredIs(s, "axSSZ=axZ", "axSSZ");
         due("back()", s.back(), 0);
@@ -628,7 +543,7 @@ public final class PromiseTest {
     /** The lemma makes the terms longer: a T a T c x T has 40 symbols if T has 12, and 43 if T has 13. */
     private static void steeredLimit() {
         promise = 16;
-        SteeredClaims s = with(ADD, DOUBLE, "21y;aycxy");
+        Subject s = with(ADD, DOUBLE, "21y;aycxy");
         proved(s, "cSxy=aycxy");
         String t = times("S", 11) + "y";
         steeredIs(s, "cSSx" + t + "=cx" + t, "a" + t + "a" + t + "cx" + t);
@@ -636,18 +551,18 @@ public final class PromiseTest {
         steeredIs(s, "cSSx" + t + "=cx" + t, "a" + t + "cSx" + t);
     }
 
-    private static void commonIs(SteeredClaims s, String claim, String result, String left, String right) {
+    private static void commonIs(Subject s, String claim, String result, String left, String right) {
         promise = 17;
         claimed(s, claim);
         due("size of " + result, s.common(NONE), result.isEmpty() ? NONE : result.length());
-        for (int i = 0; i < 20; i++) {
+        for (int i = 0; i <= result.length() && i < 20; i++) {
             due("common of " + claim, s.common(i), i < result.length() ? result.charAt(i) : NONE);
         }
         promise = 18;
         String[] sides = {left, right};
         for (int which = 0; which < 2; which++) {
             due("general, size of " + sides[which], s.general(which, NONE), sides[which].length());
-            for (int i = 0; i < 20; i++) {
+            for (int i = 0; i <= sides[which].length() && i < 20; i++) {
                 int want = i < sides[which].length() ? sides[which].charAt(i) : NONE;
                 due("general of " + claim, s.general(which, i), want);
             }
@@ -656,7 +571,7 @@ public final class PromiseTest {
 
     private static void common() {
         promise = 17;
-        SteeredClaims s = with(ADD, DOUBLE);
+        Subject s = with(ADD, DOUBLE);
         due("common(0)", s.common(0), STATE);
         due("common(-9)", s.common(NONE), STATE);
         due("common(20)", s.common(20), OUTSIDE);
@@ -676,7 +591,7 @@ public final class PromiseTest {
 
     private static void general() {
         promise = 18;
-        SteeredClaims s = with(ADD);
+        Subject s = with(ADD);
         due("general(0, 0)", s.general(0, 0), STATE);
         due("general(0, -9)", s.general(0, NONE), STATE);
         due("general(2, 0)", s.general(2, 0), OUTSIDE);
@@ -692,7 +607,7 @@ public final class PromiseTest {
 
     private static void proveProved() {
         promise = 19;
-        SteeredClaims s = with(ADD, DOUBLE);
+        Subject s = with(ADD, DOUBLE);
         due("prove()", s.prove(), STATE);
         claimed(s, "aSxy=Saxy");
         due("prove()", s.prove(), 0);
@@ -727,7 +642,7 @@ public final class PromiseTest {
 
     private static void proveRefutedAndStuck() {
         promise = 19;
-        SteeredClaims s = with(ADD);
+        Subject s = with(ADD);
         claimed(s, "axy=x");
         due("prove()", s.prove(), 1);
         scriptIs(s, "0:0 8:1");
@@ -754,14 +669,14 @@ public final class PromiseTest {
     }
 
     /** cy is never defined, so nothing with cy has a counterexample. */
-    private static SteeredClaims withUndefined(String fourth) {
+    private static Subject withUndefined(String fourth) {
         String body = "b" + times("S", 8) + "Z";
         return with("11Z;SSSSax", "11SZ;abx", "11" + body + ";" + body, fourth, "21y;exy");
     }
 
     private static void proveOverflow() {
         promise = 19;
-        SteeredClaims s = with("11Z;Sax");
+        Subject s = with("11Z;Sax");
         String term = "aaa" + times("S", 16) + "Z";
         claimed(s, term + "=" + term);
         due("prove(), 51 bodies", s.prove(), 3);
@@ -789,7 +704,7 @@ public final class PromiseTest {
 
     private static void generalizedGuess() {
         promise = 19;
-        SteeredClaims s = with(ADD);
+        Subject s = with(ADD);
         proved(s, "axSy=Saxy");
         proved(s, "aaxxx=axaxx");
         scriptIs(s, "0:0 2:10 3:0 3:1 4:0 4:10 4:10 4:10 5:1 6:1 0:1 2:11 3:0 3:1 5:0 7:1 7:0");
@@ -799,7 +714,7 @@ public final class PromiseTest {
 
     private static void why() {
         promise = 20;
-        SteeredClaims s = with(ADD);
+        Subject s = with(ADD);
         causesAre(s);
         due("why(-1)", s.why(-1), OUTSIDE);
         due("why(10)", s.why(10), OUTSIDE);
@@ -818,7 +733,7 @@ public final class PromiseTest {
 
     private static void script() {
         promise = 21;
-        SteeredClaims s = with(ADD);
+        Subject s = with(ADD);
         due("script(0, 0)", s.script(0, 0), NONE);
         proved(s, "axSy=Saxy");
         int[] kinds = {0, 2, 3, 3, 5, 7}, numbers = {0, 10, 0, 1, 0, 0};
@@ -845,7 +760,7 @@ public final class PromiseTest {
 
     private static void lemma() {
         promise = 22;
-        SteeredClaims s = with(ADD);
+        Subject s = with(ADD);
         due("lemma(0, 2, 40)", s.lemma(0, 2, 40), UNKNOWN);
         proved(s, "axSy=Saxy");
         lemmaIs(s, 0, "axSy=Saxy");
@@ -860,7 +775,7 @@ public final class PromiseTest {
 
     private static void lemmaLimits() {
         promise = 22;
-        SteeredClaims s = with(ADD);
+        Subject s = with(ADD);
         String[] claims = {"aZx=x", "x=aZx", "aZy=y", "aZz=z", "aSZx=Sx", "aSZy=Sy", "aSZz=Sz", "aSSZx=SSx"};
         for (int n = 0; n < 8; n++) {
             proved(s, claims[n]);
@@ -881,7 +796,7 @@ public final class PromiseTest {
     private static void tested() {
         promise = 23;
         // The work for c(m) is 10 * (m + 1), so the last lemma is not defined where x + y is 5 or 6.
-        SteeredClaims s = with(ADD, "11Z;Sbx", "11b" + times("S", 8) + "Z;bcx");
+        Subject s = with(ADD, "11Z;Sbx", "11b" + times("S", 8) + "Z;bcx");
         due("tested(0, 3)", s.tested(0, 3), UNKNOWN);
         proved(s, "axSy=Saxy");
         proved(s, "caxy=cayx");
@@ -901,7 +816,7 @@ public final class PromiseTest {
     /** The same function: c(m) is defined up to 5, and b(c(m)) up to 4. */
     private static void testedVariables() {
         promise = 23;
-        SteeredClaims s = with(ADD, "11Z;Sbx", "11b" + times("S", 8) + "Z;bcx");
+        Subject s = with(ADD, "11Z;Sbx", "11b" + times("S", 8) + "Z;bcx");
         proved(s, "cSSSx=bcSSx");
         proved(s, "cSSSy=bcSSy");
         proved(s, "cSSSz=bcSSz");
@@ -916,7 +831,7 @@ public final class PromiseTest {
 
     private static void back() {
         promise = 24;
-        SteeredClaims s = with(ADD);
+        Subject s = with(ADD);
         due("back()", s.back(), STATE);
         proved(s, "axSy=Saxy");
         proved(s, "axZ=x");
@@ -930,7 +845,7 @@ public final class PromiseTest {
 
     private static void many() {
         promise = 25;
-        SteeredClaims s = with(ADD, DOUBLE);
+        Subject s = with(ADD, DOUBLE);
         proved(s, "axSy=Saxy");
         due("many(0)", s.many(0), 2);
         due("many(1)", s.many(1), 1);
