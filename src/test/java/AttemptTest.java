@@ -12,6 +12,8 @@ public final class AttemptTest extends Checks {
         trivial();
         inductionNotes();
         uses();
+        firstUse();
+        firstLemma();
         chains();
         levelTwo();
         guesses();
@@ -107,6 +109,41 @@ public final class AttemptTest extends Checks {
         proved(s, "Saxy=axSy");
         proved(s, "axx=bx");
         scriptIs(s, "0:0 2:10 3:0 3:1 4:101 5:0 7:0");
+    }
+
+    private static void firstUse() {
+        says(19, "Then the claim is used once: at the first position of the left side of the goal where the left side of the claim matches");
+        // In Scbycbyx the whole of cbycbyx matches cbyx, and so does what stands inside.
+        attempt(functions(ADD, "11SZ;SSbx", "22y;Z;Scxcxy"), "cbyx=y", 0, "0:0 2:11 3:0 3:1 5:0 7:0");
+        says(19, "A pattern matches a term if it becomes this term when each of its variables is replaced by a term, the same one wherever it occurs.");
+        // abxyy does not match abxSyy.
+        attempt(functions(ADD, "21y;bxSy"), "abxyy=bxayy", 2,
+                "0:0 2:10 3:0 3:1 6:-9 0:1 2:10 3:0 3:1 6:-9 0:2 2:10 3:0 3:1 8:2 8:2 8:2", 2, 2, 2, 4);
+        says(19, "(v is fixed, it matches only v)");
+        attempt(functions(SUMMED), "axy=axaZy", 0, "0:0 1:0 7:0");
+        attempt(functions(SUMMED), "axZ=x", 2,
+                "0:0 2:10 3:0 3:1 5:1 6:-9 0:1 2:10 3:0 3:1 6:-9 0:2 2:10 3:0 3:1 8:2 8:2 8:2", 2, 2, 2, 4);
+    }
+
+    private static void firstLemma() {
+        says(19, "for each lemma in ascending order, and for each direction");
+        Subject s = with(ADD, DOUBLE);
+        proved(s, "axSy=Saxy");
+        proved(s, "aySx=Sayx");
+        proved(s, "bx=axx");
+        scriptIs(s, "0:0 2:10 3:0 3:1 4:10 5:0 7:0");
+        // The direction 1 of the first lemma comes before the direction 0 of the second one.
+        s = with(ADD, DOUBLE);
+        proved(s, "Saxy=axSy");
+        proved(s, "axSy=Saxy");
+        proved(s, "bx=axx");
+        scriptIs(s, "0:0 2:10 3:0 3:1 4:11 5:0 7:0");
+        // Both directions of byx=bxy do the same.
+        s = with(SECOND, "21Z;aybxy", "11SZ;aSxcx");
+        proved(s, "byx=bxy");
+        lemmasAre(s, "byZ=Z", "axayz=ayaxz", "bySx=aybyx", "byx=bxy");
+        attempted(s, "bxbxaxx=axbxcx", 3);
+        scriptIs(s, "0:0 2:10 3:0 3:1 4:110 6:-9 0:1 2:10 3:0 3:1");
     }
 
     private static void chains() {
@@ -207,6 +244,12 @@ public final class AttemptTest extends Checks {
         attempted(s, "bSxx=baxSxaxaxx", 3);
         scriptIs(s, "0:0 2:10 3:0 3:1 4:110 4:110 4:110 4:110");
         lemmasAre(s, "ayZ=y", "aySx=Sayx", "ayx=axy");
+        // An overflow does not disturb the next attempt.
+        s = attempt(functions(SECOND, TWICE), "abxxx=x", 3,
+                "0:0 2:10 3:0 3:1 5:1 6:-9 0:1 2:10 3:0 3:1 6:-9 0:2 2:10 3:0 3:1", 3);
+        attempted(s, "x=x", 0);
+        scriptIs(s, "0:0 1:0 7:0");
+        causesAre(s);
     }
 
     private static void lemmasStay() {
@@ -264,10 +307,18 @@ public final class AttemptTest extends Checks {
         proved(s, "axZ=x");
         proved(s, "ayZ=y");
         lemmasAre(s, "axZ=x", "x=axZ", "ayZ=y");
+        // A lemma that came from a generalization is known as well.
+        s = with(SECOND);
+        proved(s, "axx=axaxx");
+        lemmasAre(s, "y=axy", "axx=axaxx");
+        proved(s, "y=axy");
+        lemmasAre(s, "y=axy", "axx=axaxx");
         // One side only is the same.
+        s = with(ADD);
+        proved(s, "axZ=x");
         proved(s, "axZ=aZx");
         proved(s, "aZx=x");
-        lemmasAre(s, "axZ=x", "x=axZ", "ayZ=y", "axZ=aZx", "aZx=x");
+        lemmasAre(s, "axZ=x", "axZ=aZx", "aZx=x");
     }
 
     private static final String[] EIGHT = {"aZx=x", "x=aZx", "aZy=y", "aZz=z", "aSZx=Sx", "aSZy=Sy", "aSZz=Sz", "aSSZx=SSx"};
@@ -358,10 +409,20 @@ public final class AttemptTest extends Checks {
         scriptIs(s, "0:0 8:1");
         causesAre(s, 1);
         due("script(2, 0)", s.script(2, 0), NONE);
+        due("the claim stays", s.side(1, 0), 'y');
+        due("the tape stays", s.many(2), 3);
+        due("the functions stay", s.many(0), 1);
         attempted(s, "x=x", 0);
         scriptIs(s, "0:0 1:0 7:0");
         says(20, "NONE if there are not so many causes, if the claim was proved, or if there was no attempt");
         causesAre(s);
+        says(19, "Makes an attempt to prove the present claim (which stays as it is, not normalized)");
+        Subject other = with(ADD);
+        proved(other, "aSxSy=SSaxy");
+        due("side(0, 1)", other.side(0, 1), 'S');
+        due("side(1, 2)", other.side(1, 2), 'a');
+        due("back()", other.back(), 0);
+        scriptIs(other, "0:0 2:10 3:0 3:1 5:0 7:0");
         says(21, "Returns a note of the script of the latest attempt (of prove()).");
         claimed(s, "axZ=x");
         scriptIs(s, "0:0 1:0 7:0");

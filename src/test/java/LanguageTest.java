@@ -70,6 +70,13 @@ public final class LanguageTest {
                 complain("a private method bears the name of a public one: " + row);
             }
         }
+        for (Class<?> inside : SteeredClaims.class.getDeclaredClasses()) {
+            for (Method method : inside.getDeclaredMethods()) {
+                if (Arrays.stream(FACE).anyMatch(row -> row.startsWith(method.getName() + " "))) {
+                    complain("a method inside bears the name of a public one: " + method);
+                }
+            }
+        }
         Set<String> constants = new TreeSet<>();
         for (Field field : SteeredClaims.class.getDeclaredFields()) {
             if (!Modifier.isPrivate(field.getModifiers())) {

@@ -23,6 +23,8 @@ public final class LimitTest extends Checks {
         embedding();
         steeredSymbols();
         steeredChoice();
+        steeredOrder();
+        steeredMatch();
         steeredPlaces();
         common();
         generalWithout();
@@ -260,6 +262,8 @@ public final class LimitTest extends Checks {
         normalIs(s, "cSSZSSS" + t, null);
         normalIs(s, "SScZSS" + t, "SSZ");
         normalIs(s, "c" + t + "y", "Z");
+        normalIs(s, "cSSS" + t + "y", null);
+        normalIs(s, "Sz", "Sz");
         normalIs(s, "dSZSS" + t, "SS" + n);
         s = with("11Z;SSSSax", "21SSSy;x");
         normalIs(s, "bZa" + times("S", 9) + "Z", times("S", 39) + "Z");
@@ -449,6 +453,34 @@ public final class LimitTest extends Checks {
         steeredIs(s, "abxyZ=bxy", "abxyZ");
         steeredIs(s, "aZSSZ=SZ", "aZSSZ");
         steeredIs(s, "aabxySZSZ=aZSZ", "aaZSZSZ");
+    }
+
+    private static void steeredOrder() {
+        says(16, "For each position of the term in ascending order, for each lemma in ascending order, and for each direction");
+        // At position 0 each side of the lemma matches, and the difference gets smaller in both directions.
+        Subject s = with(ADD);
+        proved(s, "axayz=aaxyz");
+        steeredIs(s, "aaxyayx=x", "aaaxyyx");
+        s = with(ADD);
+        proved(s, "aaxyz=axayz");
+        steeredIs(s, "aaxyayx=x", "axayayx");
+        // The first lemma would only do for position 1, the second one does for position 0.
+        s = with(ADD, "11Z;Sbx");
+        proved(s, "bSx=Sbx");
+        proved(s, "axSy=Saxy");
+        steeredIs(s, "axSbSy=axby", "SSaxby");
+    }
+
+    private static void steeredMatch() {
+        says(16, "each of its variables is replaced by a term, the same one wherever it occurs");
+        Subject s = with(ADD, DOUBLE);
+        proved(s, "axSy=Saxy");
+        proved(s, "axx=bx");
+        steeredIs(s, "aaxxSbx=bx", "abxSbx");
+        steeredIs(s, "aaxySbx=bx", "aaxySbx");
+        steeredIs(s, "aaSxSxSbSx=bSx", "abSxSbSx");
+        steeredIs(s, "aaSxxSbSx=bSx", "aaSxxSbSx");
+        steeredIs(s, "aaSxSySbSx=bSx", "aaSxSySbSx");
     }
 
     private static void steeredPlaces() {

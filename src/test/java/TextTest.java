@@ -122,6 +122,7 @@ public final class TextTest extends Checks {
             s = with(KNOWN);
         }
         due(text, state(s, text), text.length() - 1);
+        due("the longest one", state(s, times("S", 19) + "Z=" + times("S", 19)), -140);
     }
 
     private static void claimFaults() {
@@ -251,6 +252,8 @@ public final class TextTest extends Checks {
             }
             due(text, define(with(KNOWN), text), 4);
         }
+        String nine = times("S", 9);
+        due("the longest one", define(with(KNOWN), "12" + nine + "Z;" + nine + "Z;" + nine), -131);
     }
 
     private static void functionFaults() {
