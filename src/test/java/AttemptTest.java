@@ -313,6 +313,16 @@ public final class AttemptTest extends Checks {
         lemmasAre(s, "y=axy", "axx=axaxx");
         proved(s, "y=axy");
         lemmasAre(s, "y=axy", "axx=axaxx");
+        // A lemma that has been removed is not there any more.
+        s = with(ADD);
+        proved(s, "axZ=x");
+        due("back()", s.back(), 0);
+        due("prove()", s.prove(), 0);
+        lemmasAre(s, "axZ=x");
+        due("anew()", s.anew(), 1);
+        due("function", define(s, ADD), 0);
+        proved(s, "axZ=x");
+        lemmasAre(s, "axZ=x");
         // One side only is the same.
         s = with(ADD);
         proved(s, "axZ=x");

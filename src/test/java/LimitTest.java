@@ -429,6 +429,18 @@ public final class LimitTest extends Checks {
         String u = times("S", 10) + "y";
         steeredIs(s, "SSScSSx" + u + "=SSScx" + u, "SSSa" + u + "a" + u + "cx" + u);
         steeredIs(s, "SSSScSSx" + u + "=SSSScx" + u, "SSSSa" + u + "cSx" + u);
+        // Each step makes the term longer by 2.
+        s = with(ADD, "11Z;abxSZ");
+        proved(s, "bSx=abxSZ");
+        String eight = times("S", 8), ten = times("S", 10);
+        steeredIs(s, eight + "b" + ten + "x=" + eight + "bx", eight + times("a", 10) + "bx" + times("SZ", 10));
+        String six = times("S", 6);
+        steeredIs(s, six + "bS" + ten + "x=" + six + "bx", six + times("a", 10) + "bSx" + times("SZ", 10));
+        // The last symbol of the new term, the 40th or the 41st one, is the Z of the lemma.
+        s = with(ADD, "21Z;abxyayayZ");
+        proved(s, "bSxy=abxyayayZ");
+        steeredIs(s, "SbSx" + u + "=Sbx" + u, "Sabx" + u + "a" + u + "a" + u + "Z");
+        steeredIs(s, "SSbSx" + u + "=SSbx" + u, "SSbSx" + u);
     }
 
     private static void steeredChoice() {
