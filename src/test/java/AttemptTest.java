@@ -58,6 +58,9 @@ public final class AttemptTest extends Checks {
         // False for 2, or only for 3.
         lemmasAre(attempt(functions("12Z;Z;Sx"), "ax=Z", 1, "0:0 8:1", 1));
         attempt(functions(LESS_TWO), "ax=Z", 2, "0:0 2:20 3:0 3:1 3:2 5:1 6:-9 0:1 8:1 8:2", 2, 1);
+        // For x = 2 the left side is not defined (62 calls); its normal form is Z, which is different from c(2).
+        attempt(functions("11Z;Sax", "21Z;Z", "12Z;Z;SZ"), "baaaa" + times("S", 12) + "xaz=cx", 2,
+                "0:0 2:20 3:0 3:1 3:2 5:0 6:-9 0:1 8:1 8:2", 2, 1);
         // There is a counterexample, although the normal forms would overflow.
         attempt(functions("11Z;Sax"), "aaa" + times("S", 16) + "Z=Z", 1, "0:0 8:1", 1);
     }

@@ -12,13 +12,8 @@ import java.util.TreeSet;
 import java.util.regex.Matcher;
 import java.util.regex.Pattern;
 
-/** Checks those rules of LANGUAGE.md that can be seen from the class file or from the text of the source. */
+/** Checks the face, and those rules of LANGUAGE.md that can be seen from the class file or from the text of the source. */
 public final class LanguageTest {
-    private static final String[] FACE = {
-        "type 1", "wipe 0", "function 2", "ofFunction 2", "body 3", "claim 0", "side 2", "anew 0", "value 4", "holds 3",
-        "counter 1", "normal 2", "scheme 1", "difference 0", "steered 1", "common 1", "general 2", "prove 0", "why 1",
-        "script 2", "lemma 3", "tested 2", "back 0", "many 1"
-    };
     private static final String[] FORBIDDEN = {
         "\\b(throws?|try|catch|synchronized|assert|import|package|protected|transient|volatile|native|var|yield)\\b",
         "\\b(Object|Thread|hashCode|toString)\\b", "\\bequals\\s*\\(", "Exception", "Exact\\b", "->", "::",
@@ -28,7 +23,7 @@ public final class LanguageTest {
     private static int wrong = 0;
 
     public static void main(String[] args) throws Exception {
-        checkFace();
+        checkFace(Files.readString(Path.of("../shared/DOC.md")));
         List<Class<?>> classes = new ArrayList<>(List.of(SteeredClaims.class));
         classes.addAll(Arrays.asList(SteeredClaims.class.getDeclaredClasses()));
         classes.forEach(LanguageTest::checkClass);
@@ -46,50 +41,56 @@ public final class LanguageTest {
         System.out.println(what);
     }
 
-    private static void checkFace() {
+    /** The face as the document writes it: "public int name(int argument, ..);", and the constants. */
+    private static void checkFace(String document) throws Exception {
+        Set<String> due = new TreeSet<>();
+        Set<String> names = new TreeSet<>();
+        Matcher m = Pattern.compile("(?m)^    public int (\\w+)\\((.*)\\);$").matcher(document);
+        while (m.find()) {
+            names.add(m.group(1));
+            due.add("public int SteeredClaims." + m.group(1) + "(" + m.group(2).replaceAll(" \\w+(?=,|$)", "").replace(" ", "") + ")");
+        }
         Set<String> methods = new TreeSet<>();
-        Set<String> hidden = new TreeSet<>();
         for (Method method : SteeredClaims.class.getDeclaredMethods()) {
-            if (Modifier.isPublic(method.getModifiers())) {
-                methods.add(method.getName() + " " + method.getParameterCount());
-                if (method.getReturnType() != int.class || Modifier.isStatic(method.getModifiers())) {
-                    complain("the kind of " + method);
-                }
-            } else {
-                hidden.add(method.getName());
-                if (!Modifier.isPrivate(method.getModifiers())) {
-                    complain("not private: " + method);
-                }
+            if (!Modifier.isPrivate(method.getModifiers())) {
+                methods.add(method.toString());
+            } else if (names.contains(method.getName())) {
+                complain("a private method bears the name of a public one: " + method);
             }
         }
-        if (!methods.equals(new TreeSet<>(Arrays.asList(FACE)))) {
-            complain("the public methods are " + methods);
-        }
-        for (String row : FACE) {
-            if (hidden.contains(row.substring(0, row.indexOf(' ')))) {
-                complain("a private method bears the name of a public one: " + row);
-            }
+        if (due.size() != 24 || !methods.equals(due)) {
+            complain("the methods are " + methods + ", due are " + due);
         }
         for (Class<?> inside : SteeredClaims.class.getDeclaredClasses()) {
             for (Method method : inside.getDeclaredMethods()) {
-                if (Arrays.stream(FACE).anyMatch(row -> row.startsWith(method.getName() + " "))) {
+                if (names.contains(method.getName())) {
                     complain("a method inside bears the name of a public one: " + method);
                 }
             }
         }
+        checkConstants(document);
+        Constructor<?>[] constructors = SteeredClaims.class.getDeclaredConstructors();
+        if (constructors.length != 1 || !constructors[0].toString().equals("public SteeredClaims()")
+                || SteeredClaims.class.getModifiers() != (Modifier.PUBLIC | Modifier.FINAL)) {
+            complain("the constructor, or the class");
+        }
+    }
+
+    private static void checkConstants(String document) throws Exception {
+        Set<String> due = new TreeSet<>();
+        Matcher line = Pattern.compile("(?m)^    public static final int (.*);$").matcher(document);
+        while (line.find()) {
+            due.addAll(Arrays.asList(line.group(1).split(", ")));
+        }
         Set<String> constants = new TreeSet<>();
         for (Field field : SteeredClaims.class.getDeclaredFields()) {
             if (!Modifier.isPrivate(field.getModifiers())) {
-                constants.add(field.getName());
+                boolean fine = field.toString().equals("public static final int SteeredClaims." + field.getName());
+                constants.add(field.getName() + (fine ? " = " + field.getInt(null) : ", which is " + field));
             }
         }
-        if (!constants.equals(Set.of("UNKNOWN", "OUTSIDE", "STATE", "FULL", "NONE"))) {
-            complain("the visible fields are " + constants);
-        }
-        Constructor<?>[] constructors = SteeredClaims.class.getDeclaredConstructors();
-        if (constructors.length != 1 || constructors[0].getParameterCount() != 0
-                || !Modifier.isPublic(constructors[0].getModifiers()) || !Modifier.isFinal(SteeredClaims.class.getModifiers())) {
-            complain("the constructor, or the class");
+        if (due.size() != 5 || !constants.equals(due)) {
+            complain("the constants are " + constants + ", due are " + due);
         }
     }
 

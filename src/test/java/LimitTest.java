@@ -481,6 +481,11 @@ public final class LimitTest extends Checks {
         proved(s, "bSx=Sbx");
         proved(s, "axSy=Saxy");
         steeredIs(s, "axSbSy=axby", "SSaxby");
+        // The first lemma leaves the difference 2 and no further step; the second one would leave 1.
+        s = with(ADD);
+        proved(s, "axSSy=SaxSy");
+        proved(s, "axSSy=SSaxy");
+        steeredIs(s, "axSSy=axy", "SaxSy");
     }
 
     private static void steeredMatch() {

@@ -13,6 +13,10 @@ final class Subject {
         return claims;
     }
 
+    int calls() {
+        return calls;
+    }
+
     int type(int code) {
         return next().type(code);
     }
